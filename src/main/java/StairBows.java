@@ -25,6 +25,9 @@ public final class StairBows {
     /** Where a person is: the answers of person(.., 2). */
     private static final int IN_HALL = 0, ON_STEP = 1, ARRIVED = 2, SENT_OFF = 3;
 
+    /** What person(person, ..) tells of it, where it is also summed up. */
+    private static final int WAITS = 4, YIELDS = 5, BOWS_MADE = 6;
+
     /** What a person did last in a tick: the answers of does(..). */
     private static final int NO_DEED = 0, GOES = 1, ARRIVES = 2, STAYS = 3, STEPS_BACK = 4, IS_SENT_OFF = 5;
 
@@ -167,9 +170,9 @@ public final class StairBows {
             case 7: return now.peopleWho(ARRIVED);
             case 8: return now.peopleWho(SENT_OFF);
             case 9: return now.landings;
-            case 10: return now.allBows();
-            case 11: return now.allYields();
-            case 12: return now.allWaits();
+            case 10: return now.sumOf(BOWS_MADE);
+            case 11: return now.sumOf(YIELDS);
+            case 12: return now.sumOf(WAITS);
             case 13: return pad.length;
             case 14: return history.size;
             default: return BAD_VALUE;
@@ -207,8 +210,8 @@ public final class StairBows {
         switch (what) {
             case 0: return trial.peopleWho(ARRIVED) - now.peopleWho(ARRIVED);
             case 1: return trial.peopleWho(SENT_OFF) - now.peopleWho(SENT_OFF);
-            case 2: return trial.allBows() - now.allBows();
-            default: return trial.allWaits() - now.allWaits();
+            case 2: return trial.sumOf(BOWS_MADE) - now.sumOf(BOWS_MADE);
+            default: return trial.sumOf(WAITS) - now.sumOf(WAITS);
         }
     }
 
@@ -219,7 +222,10 @@ public final class StairBows {
             if (now.isLanding(step)) {
                 continue;
             }
-            int bows = bowsWithLanding(step);
+            trial.takeFrom(now);
+            trial.landings |= 1 << step;
+            tryOut(TICKS_TO_JUDGE_A_LANDING);
+            int bows = trial.sumOf(BOWS_MADE);
             if (best == NONE || bows < fewestBows) {
                 best = step;
                 fewestBows = bows;
@@ -303,18 +309,11 @@ public final class StairBows {
         return passed;
     }
 
-    private int bowsWithLanding(int step) {
-        trial.takeFrom(now);
-        trial.landings |= 1 << step;
-        tryOut(TICKS_TO_JUDGE_A_LANDING);
-        return trial.allBows() - now.allBows();
-    }
-
     private static final class Person {
         int rank;
         boolean goesUp;
         int place;
-        /** The step on which it stands; in a hall the number just beyond the steps on that side. */
+        /** The step on which it stands; if on none, the number just beyond the steps on that side. */
         int at;
         int waits;
         int yields;
@@ -369,11 +368,6 @@ public final class StairBows {
                 && (walker.rank > rank || walker.rank == rank && !walker.goesUp);
         }
 
-        void act(int newDeed) {
-            deed = newDeed;
-            stayed = 0;
-        }
-
         void stay() {
             deed = STAYS;
             waits++;
@@ -391,9 +385,9 @@ public final class StairBows {
                 case 1: return goesUp ? 1 : 0;
                 case 2: return place;
                 case 3: return place == ON_STEP ? at : NONE;
-                case 4: return waits;
-                case 5: return yields;
-                case 6: return bows;
+                case WAITS: return waits;
+                case YIELDS: return yields;
+                case BOWS_MADE: return bows;
                 case 7: return isOnWay() ? NONE : endedAt;
                 case 8: return stayed;
                 default: return BAD_VALUE;
@@ -480,26 +474,11 @@ public final class StairBows {
             return sum;
         }
 
-        int allBows() {
+        /** What all people have together of a number that Person.tell tells. */
+        int sumOf(int what) {
             int sum = 0;
             for (int i = 0; i < size; i++) {
-                sum += people[i].bows;
-            }
-            return sum;
-        }
-
-        int allYields() {
-            int sum = 0;
-            for (int i = 0; i < size; i++) {
-                sum += people[i].yields;
-            }
-            return sum;
-        }
-
-        int allWaits() {
-            int sum = 0;
-            for (int i = 0; i < size; i++) {
-                sum += people[i].waits;
+                sum += people[i].tell(what);
             }
             return sum;
         }
@@ -531,11 +510,9 @@ public final class StairBows {
         private void move(Person walker) {
             int next = walker.nextStep();
             if (!isStep(next)) {
-                leave(walker, ARRIVED);
-                walker.act(ARRIVES);
+                bring(walker, next, ARRIVED, ARRIVES);
             } else if (roomOn(next) > 0 || isCleared(next, walker)) {
-                standOn(walker, next);
-                walker.act(GOES);
+                bring(walker, next, ON_STEP, GOES);
             } else {
                 walker.stay();
             }
@@ -554,7 +531,11 @@ public final class StairBows {
             if (isStep(behind) && roomOn(behind) <= 0) {
                 return false;
             }
-            stepBack(yielder, behind);
+            if (isStep(behind)) {
+                bring(yielder, behind, ON_STEP, STEPS_BACK);
+            } else {
+                bring(yielder, behind, SENT_OFF, IS_SENT_OFF);
+            }
             yielder.bow(settings[BOWS] * (walker.rank - yielder.rank + 1));
             return true;
         }
@@ -571,36 +552,20 @@ public final class StairBows {
             return lowest;
         }
 
-        private void stepBack(Person yielder, int behind) {
-            if (isStep(behind)) {
-                standOn(yielder, behind);
-                yielder.act(STEPS_BACK);
+        /** Brings a person to a step, or beyond the steps, where its way ends. */
+        private void bring(Person person, int to, int place, int deed) {
+            if (isStep(person.at)) {
+                crowds[person.at]--;
+            }
+            if (isStep(to)) {
+                crowds[to]++;
             } else {
-                leave(yielder, SENT_OFF);
-                yielder.act(IS_SENT_OFF);
+                person.endedAt = ticks + 1;
             }
-        }
-
-        private void standOn(Person walker, int step) {
-            vacate(walker.at);
-            walker.place = ON_STEP;
-            walker.at = step;
-            if (isStep(step)) {
-                crowds[step]++;
-            }
-        }
-
-        private void leave(Person walker, int place) {
-            vacate(walker.at);
-            walker.place = place;
-            walker.endedAt = ticks + 1;
-        }
-
-        /** Takes one person from a step; who comes from a hall leaves none. */
-        private void vacate(int step) {
-            if (isStep(step)) {
-                crowds[step]--;
-            }
+            person.at = to;
+            person.place = place;
+            person.deed = deed;
+            person.stayed = 0;
         }
     }
 

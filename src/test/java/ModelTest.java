@@ -1,6 +1,6 @@
 /** Runs of calls, made by a counter of fixed seeds, on StairBows and on the model: all answers have to be the same. */
 public final class ModelTest {
-    private static final int RUNS = 400;
+    private static final int RUNS = 250;
     private static final int CALLS = 500;
 
     private long seed;

@@ -18,6 +18,22 @@ final class Due {
         is(claim, holds ? 1 : 0, 1);
     }
 
+    /** Compares count(0), count(1), .. with their values. */
+    static void countsAre(String when, StairBows x, int... values) {
+        for (int what = 0; what < values.length; what++) {
+            is(when + ": count(" + what + ")", x.count(what), values[what]);
+        }
+    }
+
+    /** The number that puts a text of up to 8 characters. */
+    static long text(String signs) {
+        long characters = 0;
+        for (int i = 0; i < signs.length(); i++) {
+            characters = characters << 8 | signs.charAt(i);
+        }
+        return characters;
+    }
+
     static int wrongSoFar() {
         return wrong;
     }
