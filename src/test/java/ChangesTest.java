@@ -73,6 +73,10 @@ public final class ChangesTest {
         Due.is("no more room", x.step(0, 2), 0);
         x.pass(1);
         Due.is("HOLDS 1 with one", x.set(0, 1), 3);
+        x = Scenes.fullLanding(5, 3);
+        Due.is("HOLDS 1 with two", x.set(0, 1), NOT_POSSIBLE);
+        Due.is("HOLDS 2 with two", x.set(0, 2), 2);
+        Due.is("two are a crowd", x.landing(4, false), NOT_POSSIBLE);
     }
 
     private static void landing() {
