@@ -15,6 +15,7 @@ public final class FaceTest {
         "int BOWS", "int PATIENCE", "StairBows()");
 
     public static void main(String[] args) {
+        Due.of("The public face", "public final class StairBows");
         Set<String> found = new TreeSet<>();
         Set<String> publicNames = new TreeSet<>();
         for (Method method : StairBows.class.getDeclaredMethods()) {
@@ -60,6 +61,7 @@ public final class FaceTest {
     }
 
     private static void constants() {
+        Due.of("Terms, the constants", "Error codes, and NONE: there is none. [..] Settings.");
         Due.is("NO_SUCH", StairBows.NO_SUCH, -1);
         Due.is("BAD_VALUE", StairBows.BAD_VALUE, -2);
         Due.is("BAD_TEXT", StairBows.BAD_TEXT, -3);
