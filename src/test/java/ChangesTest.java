@@ -271,23 +271,25 @@ public final class ChangesTest {
 
     private static void comeBehindOthersWhoAreUndone() {
         Due.of(COME, "A person comes into a hall.", "with nothing of others, who had its number");
-        StairBows x = new StairBows();
+        StairBows x = Scenes.stairsWithout(4, 8);
         x.save(0);
         x.come(2, true);
         x.come(7, false);
+        x.pass(7);
         x.come(1, true);
-        x.pass(6);
-        x.landing(4, false);
-        x.pass(4);
+        x.come(1, true);
+        x.pass(1);
+        Due.personIs("one who bowed", x, 0, 2, 1, 1, 3, 0, 2, 12, NONE, 0);
+        Due.personIs("one who stays", x, 3, 1, 1, 0, NONE, 1, 0, 0, NONE, 1);
         x.restore(0);
-        for (int number = 0; number < 3; number++) {
+        for (int number = 0; number < 4; number++) {
             x.come(4, false);
             Due.personIs("a new one", x, number, 4, 0, 0, NONE, 0, 0, 0, NONE, 0);
         }
         x.restore(0);
-        x.put(Due.text("u4u4u4"));
+        x.put(Due.text("u4u4u4u4"));
         x.read();
-        for (int number = 0; number < 3; number++) {
+        for (int number = 0; number < 4; number++) {
             Due.personIs("one who was read", x, number, 4, 1, 0, NONE, 0, 0, 0, NONE, 0);
         }
     }
