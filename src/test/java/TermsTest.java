@@ -163,18 +163,22 @@ public final class TermsTest {
     }
 
     private static void rangesOfSettings() {
-        Due.of("Terms, settings", "(In parentheses: range; first value.) HOLDS (1 to 4; 2): people on a landing. BOWS (1 to 5; 1). PATIENCE (0 to 9; 0).");
-        int[][] ranges = {{1, 4, 2}, {1, 5, 1}, {0, 9, 0}};
-        for (int setting = 0; setting < 3; setting++) {
-            StairBows x = new StairBows();
-            int least = ranges[setting][0], greatest = ranges[setting][1], first = ranges[setting][2];
-            Due.is("the first value of " + setting, x.count(setting), first);
-            Due.is("the least of " + setting, x.set(setting, least), first);
-            Due.is("less of " + setting, x.set(setting, least - 1), BAD_VALUE);
-            Due.is("the greatest of " + setting, x.set(setting, greatest), least);
-            Due.is("more of " + setting, x.set(setting, greatest + 1), BAD_VALUE);
-            Due.is("the value of " + setting + " then", x.count(setting), greatest);
-        }
+        Due.of("Terms, settings", "HOLDS (1 to 4; 2): people on a landing.");
+        rangeIs(0, 1, 4, 2);
+        Due.of("Terms, settings", "BOWS (1 to 5; 1).");
+        rangeIs(1, 1, 5, 1);
+        Due.of("Terms, settings", "PATIENCE (0 to 9; 0).");
+        rangeIs(2, 0, 9, 0);
+    }
+
+    private static void rangeIs(int setting, int least, int greatest, int first) {
+        StairBows x = new StairBows();
+        Due.is("the first value of " + setting, x.count(setting), first);
+        Due.is("the least of " + setting, x.set(setting, least), first);
+        Due.is("less of " + setting, x.set(setting, least - 1), BAD_VALUE);
+        Due.is("the greatest of " + setting, x.set(setting, greatest), least);
+        Due.is("more of " + setting, x.set(setting, greatest + 1), BAD_VALUE);
+        Due.is("the value of " + setting + " then", x.count(setting), greatest);
     }
 
     private static void twelveSteps() {
