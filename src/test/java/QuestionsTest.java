@@ -300,9 +300,12 @@ public final class QuestionsTest {
     private static void doesNothing() {
         Due.of(DOES, "0 it is not on its way any more");
         StairBows x = Scenes.crowdOf(1);
-        x.pass(13);
+        x.pass(12);
+        Due.is("not yet arrived", x.does(0), 2);
+        x.pass(1);
         Due.is("arrived", x.does(0), 0);
         x = Scenes.lowOneAtTheBottom();
+        Due.is("not yet sent off", x.does(1), 5);
         x.pass(1);
         Due.is("sent off", x.does(1), 0);
     }
